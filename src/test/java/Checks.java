@@ -1,0 +1,76 @@
+/** Collects the answers that are not due, for the tests of the project. */
+final class Checks {
+    private static int wrong = 0;
+
+    private Checks() {
+    }
+
+    static void due(String call, long got, long want) {
+        if (got != want) {
+            wrong++;
+            System.out.println(call + " answered " + got + ", due is " + want);
+        }
+    }
+
+    static void isTrue(String claim, boolean holds) {
+        if (!holds) {
+            wrong++;
+            System.out.println("not so: " + claim);
+        }
+    }
+
+    /** Empties the text buffer and appends the characters of a text. */
+    static void type(WordEquations x, String text) {
+        x.clearText();
+        for (char c : text.toCharArray()) {
+            x.append(c);
+        }
+    }
+
+    /** A new object with the equation of the text. */
+    static WordEquations loaded(String text) {
+        WordEquations x = new WordEquations();
+        type(x, text);
+        isTrue(text + " is loaded", x.load() >= 0);
+        return x;
+    }
+
+    /** Both sides as they are read through symbolAt, with = between them. */
+    static String shown(WordEquations x) {
+        StringBuilder shown = new StringBuilder();
+        for (int side = 0; side < 2; side++) {
+            for (int i = 0; i < x.sideLength(side); i++) {
+                shown.append((char) x.symbolAt(side, i));
+            }
+            shown.append(side == 0 ? "=" : "");
+        }
+        return shown.toString();
+    }
+
+    static void dueEquation(String after, WordEquations x, String want) {
+        isTrue("after " + after + " the equation is " + want + ", not " + shown(x), shown(x).equals(want));
+    }
+
+    static String proof(WordEquations x) {
+        StringBuilder rules = new StringBuilder();
+        for (int i = 0; i < x.proofLength(); i++) {
+            rules.append(x.proofRule(i));
+        }
+        return rules.toString();
+    }
+
+    static String witness(WordEquations x, int variable) {
+        StringBuilder word = new StringBuilder();
+        for (int i = 0; i < x.witnessLength(variable); i++) {
+            word.append((char) x.witnessLetter(variable, i));
+        }
+        return word.toString();
+    }
+
+    static void finish() {
+        System.out.println(wrong == 0 ? "all answers are as due" : wrong + " answers are not as due");
+        if (wrong != 0) {
+            System.exit(1);
+        }
+    }
+}
