@@ -640,14 +640,10 @@ public final class WordEquations {
         }
 
         private static boolean holds(int length, char relation, int number) {
-            switch (relation) {
-                case '<':
-                    return length < number;
-                case '>':
-                    return length > number;
-                default:
-                    return length == number;
+            if (relation == '<') {
+                return length < number;
             }
+            return relation == '>' ? length > number : length == number;
         }
     }
 

@@ -157,13 +157,19 @@ public final class ActionsTest {
         Checks.dueEquation("undo() 5", x, "aX=Yb");
     }
 
-    /** The equation after n substitutions of X by aX, with at most 12 symbols on the left. */
-    private static String grown(int n) {
-        return "a".repeat(n) + "X=";
+    private static void rememberedEquations() {
+        forgetsTheOldest(false);
+        forgetsTheOldest(true);
     }
 
-    private static void rememberedEquations() {
-        WordEquations x = Checks.loaded("X=");
+    /** The equation after n substitutions of X by aX. */
+    private static void dueGrown(String after, WordEquations x, int n, boolean onTheRight) {
+        String side = "a".repeat(n) + "X";
+        Checks.dueEquation(after, x, onTheRight ? "=" + side : side + "=");
+    }
+
+    private static void forgetsTheOldest(boolean onTheRight) {
+        WordEquations x = Checks.loaded(onTheRight ? "=X" : "X=");
         Checks.type(x, "aX");
         for (int n = 0; n < 11; n++) {
             x.substitute(1);
@@ -174,10 +180,10 @@ public final class ActionsTest {
         Checks.due("undo() after 15 actions", x.undo(), 13);
         for (int left = 12; left >= 0; left--) {
             Checks.due("undo() to " + left, x.undo(), left);
-            Checks.dueEquation("undo() to " + left, x, grown(Math.min(left + 1, 11)));
+            dueGrown("undo() to " + left, x, Math.min(left + 1, 11), onTheRight);
         }
         Checks.due("undo() of the forgotten one", x.undo(), -3);
-        Checks.dueEquation("undo() of the forgotten one", x, grown(1));
+        dueGrown("undo() of the forgotten one", x, 1, onTheRight);
         for (int n = 0; n < 14; n++) {
             x.swapSides();
         }

@@ -186,7 +186,10 @@ public final class BoundedTest {
         dueRefuted("a=", 1);
         dueRefuted("=b", 1);
         dueRefuted("=", 0);
+        dueRefuted("Wa=b", 0);
         dueRefuted("Xa=b", 0);
+        dueRefuted("Ya=b", 0);
+        dueRefuted("Za=b", 0);
         dueRefuted("XXa=Xb", 0);
         dueRefuted("XYa=XZb", 0);
         dueRefuted("WXYZa=ZYXWb", 1);

@@ -26,8 +26,8 @@ public final class ScriptTest {
         due(x, 2, 420512L, -9);
         due(x, 2, 400504L, -9);
         due(x, 2, 430504L, -9);
-        x = Checks.loaded("Xab=Yab");
-        due(x, 2, 200701L, -9);
+        x = Checks.loaded("bXb=aXX");
+        due(x, 3, 700200702L, -9);
         x = Checks.loaded("ab=b");
         due(x, 4, 200300501510L, -9);
     }
@@ -139,25 +139,35 @@ public final class ScriptTest {
         Checks.due("undo() after a script", x.undo(), -3);
     }
 
-    /** The same numbers, computed here, for the equation X = Y. */
-    private static int expected(long seed, int m) {
+    /** The same numbers, computed here, for an equation between two variables. */
+    private static int expected(long seed, int m, int one, int other) {
         long x = seed;
         int count = 0;
         for (int i = 0; i < m; i++) {
             x = x * 6364136223846793005L + 1442695040888963407L;
             int v = (int) (x >>> 33);
-            count += v / 15 % 15 == v / 225 % 15 ? 1 : 0;
+            int[] numbers = {v % 15, v / 15 % 15, v / 225 % 15, v / 3375 % 15};
+            count += numbers[one] == numbers[other] ? 1 : 0;
         }
         return count;
     }
 
-    private static void randomChecks() {
-        WordEquations x = Checks.loaded("X=Y");
+    private static void dueRandomChecks(int one, int other) {
+        String text = "WXYZ".charAt(one) + "=" + "WXYZ".charAt(other);
+        WordEquations x = Checks.loaded(text);
         for (long seed : new long[] {0, 1, -1, 5, 77777777777L, Long.MIN_VALUE, Long.MAX_VALUE}) {
             for (int m : new int[] {1, 2, 50, 199, 200}) {
-                Checks.due("randomChecks(" + seed + ", " + m + ")", x.randomChecks(seed, m), expected(seed, m));
+                Checks.due(text + ": randomChecks(" + seed + ", " + m + ")", x.randomChecks(seed, m),
+                        expected(seed, m, one, other));
             }
         }
+    }
+
+    private static void randomChecks() {
+        dueRandomChecks(0, 3);
+        dueRandomChecks(1, 2);
+        dueRandomChecks(2, 0);
+        WordEquations x = Checks.loaded("X=Y");
         for (int bad : new int[] {0, -1, 201, Integer.MIN_VALUE, Integer.MAX_VALUE}) {
             Checks.due("randomChecks(5, " + bad + ")", x.randomChecks(5, bad), -2);
         }

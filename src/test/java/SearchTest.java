@@ -12,6 +12,7 @@ public final class SearchTest {
         longestWitness();
         witnessThatIsTooLong();
         searchChangesNothing();
+        searchBeginsAnew();
         likeTheModel();
         Checks.finish();
     }
@@ -191,6 +192,26 @@ public final class SearchTest {
         x.cancel();
         x.eliminate(1);
         Checks.due("the search is made anew after an action", x.nodeCount(), 4);
+    }
+
+    /** Nothing of an earlier search or of an earlier assignment is left. */
+    private static void searchBeginsAnew() {
+        WordEquations x = Checks.loaded("XaX=bXY");
+        Checks.due("XaX=bXY: decide()", x.decide(), 2);
+        Checks.type(x, "a=b");
+        x.load();
+        Checks.due("a=b after it: decide()", x.decide(), 0);
+        Checks.type(x, "X=ab");
+        x.load();
+        x.satisfies(62, 62, 62, 62);
+        Checks.due("X=ab after satisfies: witnessLength(0)", x.witnessLength(0), 0);
+        Checks.due("X=ab after satisfies: witnessLength(1)", x.witnessLength(1), 2);
+        Checks.due("X=ab after satisfies: witnessLength(3)", x.witnessLength(3), 0);
+        Checks.type(x, "X=b");
+        x.load();
+        Checks.due("X=b after it: decide()", x.decide(), 1);
+        Checks.due("X=b after it: nodeCount()", x.nodeCount(), 4);
+        Checks.due("X=b after it: witnessLength(1)", x.witnessLength(1), 1);
     }
 
     private static void likeTheModel() {
