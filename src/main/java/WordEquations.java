@@ -502,7 +502,6 @@ public final class WordEquations {
     private static final class EquationText {
         private static final int CAPACITY = 40;
         private static final int MAX_SIDE = 8;
-        private static final int MAX_CONSTRAINTS = 4;
         private static final int CONSTRAINT_WIDTH = 4;
 
         private final char[] characters = new char[CAPACITY];
@@ -554,7 +553,7 @@ public final class WordEquations {
                 return middle;
             }
             int end = endOfSide(middle + 1);
-            for (int constraint = 0; constraint < MAX_CONSTRAINTS && end < size; constraint++) {
+            for (int constraint = 0; constraint < LengthConstraints.CAPACITY && end < size; constraint++) {
                 for (int part = 0; part < CONSTRAINT_WIDTH; part++) {
                     if (!fits(part, at(end))) {
                         return end;
@@ -595,7 +594,7 @@ public final class WordEquations {
         void readConstraints(LengthConstraints constraints) {
             constraints.empty();
             int from = endOfSide(endOfSide(0) + 1);
-            for (int i = 0; i < MAX_CONSTRAINTS && from < size; i++) {
+            for (int i = 0; i < LengthConstraints.CAPACITY && from < size; i++) {
                 int variable = Sides.symbolOf(at(from + 1)) - Sides.FIRST_VARIABLE;
                 constraints.add(variable, at(from + 2), at(from + 3) - '0');
                 from += CONSTRAINT_WIDTH;
@@ -605,7 +604,7 @@ public final class WordEquations {
 
     /** The length constraints, a place in each row for each of them. */
     private static final class LengthConstraints {
-        private static final int CAPACITY = 4;
+        static final int CAPACITY = 4;
 
         private final int[] variables = new int[CAPACITY];
         private final char[] relations = new char[CAPACITY];
