@@ -35,6 +35,39 @@ final class Checks {
         return x;
     }
 
+    /**
+     * A new object with two sides of up to 12 symbols, more than a text can tell: each side is put for a variable,
+     * so that two actions are remembered. One of the sides leaves a variable out.
+     */
+    static WordEquations of(String left, String right) {
+        int free = unusedIn(left);
+        boolean leftFirst = free >= 0;
+        free = leftFirst ? free : unusedIn(right);
+        int other = free == 0 ? 1 : 0;
+        WordEquations x = loaded("WXYZ".charAt(leftFirst ? other : free) + "="
+                + "WXYZ".charAt(leftFirst ? free : other));
+        type(x, leftFirst ? left : right);
+        x.substitute(other);
+        type(x, leftFirst ? right : left);
+        x.substitute(free);
+        dueEquation("building it", x, left + "=" + right);
+        return x;
+    }
+
+    private static int unusedIn(String side) {
+        for (int variable = 0; variable < 4; variable++) {
+            if (side.indexOf("WXYZ".charAt(variable)) < 0) {
+                return variable;
+            }
+        }
+        return -1;
+    }
+
+    /** What is just outside of low to high, and what is far outside. */
+    static int[] outside(int low, int high) {
+        return new int[] {low - 1, high + 1, Integer.MIN_VALUE, Integer.MAX_VALUE};
+    }
+
     /** Both sides as they are read through symbolAt, with = between them. */
     static String shown(WordEquations x) {
         StringBuilder shown = new StringBuilder();
