@@ -43,6 +43,9 @@ final class Checks {
         int free = unusedIn(left);
         boolean leftFirst = free >= 0;
         free = leftFirst ? free : unusedIn(right);
+        if (free < 0) {
+            throw new IllegalArgumentException("both sides use every variable: " + left + "=" + right);
+        }
         int other = free == 0 ? 1 : 0;
         WordEquations x = loaded("WXYZ".charAt(leftFirst ? other : free) + "="
                 + "WXYZ".charAt(leftFirst ? free : other));
@@ -72,7 +75,8 @@ final class Checks {
     static String shown(WordEquations x) {
         StringBuilder shown = new StringBuilder();
         for (int side = 0; side < 2; side++) {
-            for (int i = 0; i < x.sideLength(side); i++) {
+            int length = x.sideLength(side);
+            for (int i = 0; i < length; i++) {
                 shown.append((char) x.symbolAt(side, i));
             }
             shown.append(side == 0 ? "=" : "");
@@ -81,12 +85,14 @@ final class Checks {
     }
 
     static void dueEquation(String after, WordEquations x, String want) {
-        isTrue("after " + after + " the equation is " + want + ", not " + shown(x), shown(x).equals(want));
+        String got = shown(x);
+        isTrue("after " + after + " the equation is " + want + ", not " + got, got.equals(want));
     }
 
     static String proof(WordEquations x) {
         StringBuilder rules = new StringBuilder();
-        for (int i = 0; i < x.proofLength(); i++) {
+        int length = x.proofLength();
+        for (int i = 0; i < length; i++) {
             rules.append(x.proofRule(i));
         }
         return rules.toString();
@@ -94,7 +100,8 @@ final class Checks {
 
     static String witness(WordEquations x, int variable) {
         StringBuilder word = new StringBuilder();
-        for (int i = 0; i < x.witnessLength(variable); i++) {
+        int length = x.witnessLength(variable);
+        for (int i = 0; i < length; i++) {
             word.append((char) x.witnessLetter(variable, i));
         }
         return word.toString();

@@ -2,8 +2,9 @@ import java.util.Random;
 
 /** Runs of random calls, each answered by the class and by the model of the document. */
 public final class RandomRunsTest {
-    private static final int RUNS = 600;
-    private static final int CALLS = 300;
+    private static final int RUNS = 1000;
+    // A step makes less than 70 calls, and an object answers 512.
+    private static final int CALLS = 440;
     private static final int[] ODD = {-1, Integer.MIN_VALUE, Integer.MAX_VALUE, 4, 5, 13, 63, 256};
 
     private final Random random;
@@ -163,11 +164,13 @@ public final class RandomRunsTest {
     private boolean wholeEquation() {
         for (int side = 0; side < 2; side++) {
             for (int i = 0; i < model.sideLength(side); i++) {
+                made++;
                 if (real.symbolAt(side, i) != model.symbolAt(side, i)) {
                     return same("symbolAt(" + side + ", " + i + ")", real.symbolAt(side, i), model.symbolAt(side, i));
                 }
             }
         }
+        made += 2;
         return real.sideLength(0) == model.sideLength(0) && real.sideLength(1) == model.sideLength(1)
                 || same("sideLength(0)", real.sideLength(0), model.sideLength(0))
                 && same("sideLength(1)", real.sideLength(1), model.sideLength(1));
@@ -205,6 +208,7 @@ public final class RandomRunsTest {
         int variable = number(3);
         int i = number(Math.max(1, real.proofLength()));
         int letter = number(Math.max(1, real.witnessLength(variable)));
+        made += 2;
         return same("decide()", real.decide(), model.decide())
                 && same("nodeCount()", real.nodeCount(), model.nodeCount())
                 && same("proofLength()", real.proofLength(), model.proofLength())

@@ -14,8 +14,12 @@ public final class ScriptTest {
         Checks.finish();
     }
 
+    /** The equation is only read to tell of a wrong answer: an object has no more than 512 calls. */
     private static void due(WordEquations x, int n, long script, int want) {
-        Checks.due(Checks.shown(x) + ": runScript(" + n + ", " + script + ")", x.runScript(n, script), want);
+        int got = x.runScript(n, script);
+        if (got != want) {
+            Checks.due(Checks.shown(x) + ": runScript(" + n + ", " + script + ")", got, want);
+        }
     }
 
     private static void rewritingCommands() {
