@@ -114,9 +114,17 @@ public final class ActionBoundaryTest {
         x = Checks.of("WXYWXYWXYWXY", "ZZZZZZZZZZZZ");
         Checks.due("variables only: exchangeLetters()", x.exchangeLetters(), 0);
         Checks.dueEquation("exchangeLetters()", x, "WXYWXYWXYWXY=ZZZZZZZZZZZZ");
-        x = Checks.of("aaaaaabbbbbb", "babababababa");
-        Checks.due("letters only: exchangeLetters()", x.exchangeLetters(), 24);
-        Checks.dueEquation("exchangeLetters()", x, "bbbbbbaaaaaa=abababababab");
+        dueExchange("a", "", 1, "b=");
+        dueExchange("", "b", 1, "=a");
+        dueExchange("aaaaaaaaaaaa", "aaaaaaaaaaaa", 24, "bbbbbbbbbbbb=bbbbbbbbbbbb");
+        dueExchange("bbbbbbbbbbbb", "bbbbbbbbbbbb", 24, "aaaaaaaaaaaa=aaaaaaaaaaaa");
+        dueExchange("aaaaaabbbbbb", "babababababa", 24, "bbbbbbaaaaaa=abababababab");
+    }
+
+    private static void dueExchange(String left, String right, int letters, String after) {
+        WordEquations x = Checks.of(left, right);
+        Checks.due(left + "=" + right + ": exchangeLetters()", x.exchangeLetters(), letters);
+        Checks.dueEquation("exchangeLetters()", x, after);
     }
 
     /** eliminate: "Returns how many occurrences were removed": from none to both sides whole. */
@@ -318,8 +326,8 @@ public final class ActionBoundaryTest {
     }
 
     /**
-     * "The object remembers the equation before each of the last 14 actions; when a fifteenth action happens, the oldest
-     * remembered equation is forgotten."
+     * "The object remembers the equation before each of the last 14 actions; when a fifteenth action happens, the
+     * oldest remembered equation is forgotten."
      */
     private static void fourteenAreRemembered() {
         for (int actions = 0; actions <= 22; actions++) {

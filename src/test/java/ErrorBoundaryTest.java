@@ -14,6 +14,7 @@ public final class ErrorBoundaryTest {
         refusedScripts();
         refusedSlots();
         questionsChangeNothing();
+        twinsNoticeChanges();
         firstListedError();
         fiveHundredAndTwelveCalls();
         Checks.finish();
@@ -149,7 +150,28 @@ public final class ErrorBoundaryTest {
         Twins.keepsAll("witnessLetter(0, 0)", x -> x.witnessLetter(0, 0));
     }
 
-    /** "If several errors apply to a call, the one that is listed first in the description of the method is returned." */
+    /** The tests above are worth nothing if the twins do not notice what a call that is not refused changes. */
+    private static void twinsNoticeChanges() {
+        Twins.noticed("append(97)", Twins::used, x -> x.append('a'));
+        Twins.noticed("append(97) on a new object", WordEquations::new, x -> x.append('a'));
+        Twins.noticed("clearText()", Twins::full, WordEquations::clearText);
+        Twins.noticed("load()", ErrorBoundaryTest::usedWithAnEquationText, WordEquations::load);
+        Twins.noticed("swapSides()", Twins::used, WordEquations::swapSides);
+        Twins.noticed("an action on the equation of a new object", WordEquations::new, WordEquations::reverse);
+        Twins.noticed("a fifteenth action", Twins::full, WordEquations::cancel);
+        Twins.noticed("undo()", Twins::full, WordEquations::undo);
+        Twins.noticed("save(0)", Twins::used, x -> x.save(0));
+        Twins.noticed("save(1) over a full slot", Twins::used, x -> x.save(1));
+        Twins.noticed("restore(1)", Twins::used, x -> x.restore(1));
+    }
+
+    private static WordEquations usedWithAnEquationText() {
+        WordEquations x = Twins.used();
+        Checks.type(x, "a=b");
+        return x;
+    }
+
+    /** "If several errors apply to a call, the one that is listed first in the description ... is returned." */
     private static void firstListedError() {
         WordEquations x = Twins.full();
         Checks.due("append: BAD_VALUE, then FULL", x.append(-1), WordEquations.BAD_VALUE);
@@ -175,7 +197,7 @@ public final class ErrorBoundaryTest {
         Checks.due("restore: NOT_POSSIBLE", x.restore(1), WordEquations.NOT_POSSIBLE);
     }
 
-    /** "An object is used for at most 512 calls after it has been made": the last of them is answered like the first. */
+    /** "An object is used for at most 512 calls after it has been made": the last one is answered like the first. */
     private static void fiveHundredAndTwelveCalls() {
         WordEquations x = new WordEquations();
         int calls = 0;

@@ -1,6 +1,6 @@
 /**
- * The boundary cases of NIELSEN TRANSFORMATIONS and of the promises 22 to 27. Each test stands under the sentence of the
- * document that it holds to.
+ * The boundary cases of NIELSEN TRANSFORMATIONS and of the promises 22 to 27. Each test stands under the sentence of
+ * the document that it holds to.
  */
 public final class SearchBoundaryTest {
     public static void main(String[] args) {
@@ -22,9 +22,11 @@ public final class SearchBoundaryTest {
         endsWithTheSolvedNode();
         droppedAndYetSolved();
         droppedAndTheNextSearch();
+        firstQuestionOfTheSearch();
         emptyProof();
         indicesOfAProof();
         noProof();
+        witnessAtRuleZero();
         witnessOfUnusedVariables();
         indicesOfAWitness();
         witnessOfSixtyLetters();
@@ -149,7 +151,7 @@ public final class SearchBoundaryTest {
         dueSearch(Checks.of("Xbbbbbbbbbbb", "bbbbbbbbbbbX"), WordEquations.SATISFIABLE, 13, "1" + "0".repeat(11));
     }
 
-    /** "or if there are 200 nodes already and the child is not equal to a node": 200 nodes are no reason by themselves. */
+    /** "or if there are 200 nodes already and the child is not equal to a node": a known child is not dropped. */
     private static void twoHundredNodes() {
         dueSearch("baXX=ZYbYZ", WordEquations.UNSATISFIABLE, 199, null);
         dueSearch("aYYZZ=XbX", WordEquations.UNSATISFIABLE, 200, null);
@@ -236,6 +238,25 @@ public final class SearchBoundaryTest {
         Checks.due("the first search again: nodeCount()", x.nodeCount(), 2);
     }
 
+    /** Each question has the answer of the present equation, without another question before it. */
+    private static void firstQuestionOfTheSearch() {
+        Checks.due("new: nodeCount()", new WordEquations().nodeCount(), 1);
+        Checks.due("new: proofLength()", new WordEquations().proofLength(), 0);
+        Checks.due("new: proofRule(0)", new WordEquations().proofRule(0), WordEquations.NO_SUCH_INDEX);
+        Checks.due("new: witnessLength(0)", new WordEquations().witnessLength(0), 0);
+        Checks.due("X=ab: nodeCount()", Checks.loaded("X=ab").nodeCount(), 6);
+        Checks.due("X=ab: proofLength()", Checks.loaded("X=ab").proofLength(), 3);
+        Checks.due("X=ab: proofRule(2)", Checks.loaded("X=ab").proofRule(2), 1);
+        Checks.due("X=ab: witnessLength(1)", Checks.loaded("X=ab").witnessLength(1), 2);
+        Checks.due("X=ab: witnessLetter(1, 1)", Checks.loaded("X=ab").witnessLetter(1, 1), 'b');
+        WordEquations x = Checks.loaded("X=ab");
+        Checks.due("before an action: nodeCount()", x.nodeCount(), 6);
+        x.eliminate(1);
+        Checks.due("after an action: nodeCount()", x.nodeCount(), 1);
+        x.undo();
+        Checks.due("after undo(): nodeCount()", x.nodeCount(), 6);
+    }
+
     /** "the proof is the sequence of the rules on the path": of an equation that is solved already it is empty. */
     private static void emptyProof() {
         WordEquations x = new WordEquations();
@@ -280,6 +301,15 @@ public final class SearchBoundaryTest {
                 Checks.due(text + ": witnessLetter(" + variable + ", 0)", x.witnessLetter(variable, 0),
                         WordEquations.NONE);
             }
+        }
+    }
+
+    /** Only the rules 1 to 4 say what a word becomes: a rule 0 leaves the word of its head as it is. */
+    private static void witnessAtRuleZero() {
+        for (String text : new String[] {"XX=Xab", "Xab=XX"}) {
+            WordEquations x = Checks.loaded(text);
+            Checks.due(text + ": proofRule(0)", x.proofRule(0), 0);
+            Checks.isTrue(text + ": X is ab", Checks.witness(x, 1).equals("ab"));
         }
     }
 

@@ -128,7 +128,7 @@ public final class SlotBoundaryTest {
         Checks.due("save: undo() too often", x.undo(), WordEquations.NOT_POSSIBLE);
     }
 
-    /** restore: "Replaces the equation by the one in a slot, and forgets all remembered equations", be it none or 14. */
+    /** restore: "Replaces the equation by the one in a slot, and forgets all remembered equations": none or 14. */
     private static void restoreForgetsAll() {
         for (int actions = 0; actions <= 16; actions++) {
             WordEquations x = Checks.loaded("aX=b");

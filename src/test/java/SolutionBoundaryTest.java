@@ -313,7 +313,8 @@ public final class SolutionBoundaryTest {
         for (int bound = 0; bound <= 9; bound++) {
             int want = 1;
             for (String equation : equations) {
-                Checks.due(equation + ": countLengths(" + bound + ")", Checks.loaded(equation).countLengths(bound), want);
+                int got = Checks.loaded(equation).countLengths(bound);
+                Checks.due(equation + ": countLengths(" + bound + ")", got, want);
                 want *= bound + 1;
             }
             Checks.due("a=: countLengths(" + bound + ")", Checks.loaded("a=").countLengths(bound), 0);
@@ -349,9 +350,9 @@ public final class SolutionBoundaryTest {
     }
 
     private static void dueRefuted(String left, String right, boolean refuted) {
-        String call = left + "=" + right + ": refutedByCounting()";
-        Checks.due(call, Checks.of(left, right).refutedByCounting(), refuted ? 1 : 0);
-        Checks.due(right + "=" + left + " turned: " + call, Checks.of(right, left).refutedByCounting(), refuted ? 1 : 0);
+        int want = refuted ? 1 : 0;
+        Checks.due(left + "=" + right + ": refutedByCounting()", Checks.of(left, right).refutedByCounting(), want);
+        Checks.due(right + "=" + left + ": refutedByCounting()", Checks.of(right, left).refutedByCounting(), want);
     }
 
     /** "if each variable occurs on both sides the same number of times": one occurrence more or less is enough. */

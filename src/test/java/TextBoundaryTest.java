@@ -166,8 +166,8 @@ public final class TextBoundaryTest {
     }
 
     /**
-     * "A symbol is written a, b, W, X, Y or Z. A length constraint is a semicolon, a variable, one of the characters <, =
-     * and > and a digit." Every other character is the first error where it stands.
+     * "A symbol is written a, b, W, X, Y or Z. A length constraint is a semicolon, a variable, one of the characters <,
+     * = and > and a digit." Every other character is the first error where it stands.
      */
     private static void wrongCharactersInEveryPlace() {
         for (int index = 0; index < LONGEST.length(); index++) {
@@ -175,7 +175,8 @@ public final class TextBoundaryTest {
                 WordEquations x = new WordEquations();
                 Checks.type(x, LONGEST.substring(0, index) + (char) c + LONGEST.substring(index + 1));
                 boolean wrong = x.errorPosition() == index;
-                Checks.isTrue("character " + c + " at " + index + " is judged", wrong == allowedAt(index).indexOf(c) < 0);
+                boolean allowed = allowedAt(index).indexOf(c) >= 0;
+                Checks.isTrue("character " + c + " at " + index + " is judged rightly", wrong != allowed);
                 if (wrong) {
                     Checks.due("load() with " + c + " at " + index, x.load(), WordEquations.NOT_POSSIBLE);
                 }
@@ -311,7 +312,7 @@ public final class TextBoundaryTest {
             for (int variable = 0; variable < 4; variable++) {
                 int got = x.satisfies(variable == 0 ? 0 : 1, variable == 1 ? 0 : 1, variable == 2 ? 0 : 1,
                         variable == 3 ? 0 : 1);
-                Checks.due(count + " constraints, the word of " + variable + " is empty", got, variable < count ? 0 : 1);
+                Checks.due(count + " constraints, variable " + variable + " is empty", got, variable < count ? 0 : 1);
             }
         }
     }

@@ -53,6 +53,17 @@ final class Twins {
         }
     }
 
+    /** The call changes something, and one of the questions tells it. */
+    static void noticed(String name, Supplier<WordEquations> past, Call call) {
+        boolean noticed = false;
+        for (Function<WordEquations, String> question : QUESTIONS) {
+            WordEquations called = past.get();
+            call.on(called);
+            noticed |= !question.apply(called).equals(question.apply(past.get()));
+        }
+        Checks.isTrue("the twins notice " + name, noticed);
+    }
+
     // ---- pasts
 
     /** Constraints, actions, one slot, and a text of symbols. */
