@@ -3,38 +3,28 @@ import java.lang.reflect.Constructor;
 import java.lang.reflect.Field;
 import java.lang.reflect.Method;
 import java.lang.reflect.Modifier;
-import java.nio.file.Files;
-import java.nio.file.Path;
+import java.util.List;
 import java.util.Set;
 import java.util.TreeSet;
-import java.util.regex.Matcher;
-import java.util.regex.Pattern;
 
-/** The public face of the document, and the rules of LANGUAGE.md that a test can read from the class and its source. */
+/** The public face, as the document has it, and nothing beside it (LANGUAGE.md, rule 1). */
 public final class FaceTest {
-    private static final Path SOURCE = Path.of("src/main/java/WordEquations.java");
-    private static final String METHODS = "append(int) clearText() errorPosition() load() sideLength(int) "
-            + "symbolAt(int,int) occurrences(int,int) swapSides() reverse() cancel() exchangeLetters() eliminate(int) "
-            + "substitute(int) undo() satisfies(int,int,int,int) countSolutions(int) firstSolution(int,int) "
-            + "leastTotalLength(int) countLengths(int) refutedByCounting() decide() nodeCount() proofLength() "
-            + "proofRule(int) witnessLength(int) witnessLetter(int,int) runScript(int,long) randomChecks(long,int) "
-            + "save(int) restore(int)";
-    private static final String CONSTANTS = "NO_SUCH_INDEX=-1 BAD_VALUE=-2 NOT_POSSIBLE=-3 FULL=-4 NONE=-9 "
-            + "UNSATISFIABLE=0 SATISFIABLE=1 UNKNOWN=2";
+    private static final int PROMISES = 31;
 
     public static void main(String[] args) throws IOException, IllegalAccessException {
-        Checks.isTrue("the class is public and final",
-                Modifier.toString(WordEquations.class.getModifiers()).equals("public final"));
-        methods();
-        constants();
+        Document document = Document.read();
+        classLine(document);
+        methods(document);
+        constants(document);
         constructors();
         classesInside();
-        source();
+        promises(document);
         Checks.finish();
     }
 
-    private static Set<String> words(String text) {
-        return new TreeSet<>(Set.of(text.split(" ")));
+    private static void classLine(Document document) {
+        String line = Modifier.toString(WordEquations.class.getModifiers()) + " class WordEquations";
+        Checks.isTrue(line + " is " + document.classLine(), line.equals(document.classLine()));
     }
 
     private static String signature(Method method) {
@@ -45,34 +35,53 @@ public final class FaceTest {
         return method.getName() + "(" + types + ")";
     }
 
-    private static void methods() {
-        Set<String> found = new TreeSet<>();
+    private static void methods(Document document) {
+        Set<String> want = new TreeSet<>();
+        for (String signature : document.methods()) {
+            want.add(signature.replaceAll("(int|long) \\w+", "$1").replace(" ", ""));
+        }
+        Set<String> got = new TreeSet<>();
+        Set<String> names = new TreeSet<>();
         for (Method method : WordEquations.class.getDeclaredMethods()) {
             int modifiers = method.getModifiers();
-            if (Modifier.isPublic(modifiers)) {
-                Checks.isTrue(method + " is an int method of the object",
-                        method.getReturnType() == int.class && !Modifier.isStatic(modifiers));
-                found.add(signature(method));
-            } else {
-                Checks.isTrue(method + " is private", Modifier.isPrivate(modifiers));
+            if (!Modifier.isPrivate(modifiers)) {
+                Checks.isTrue(method + " is a public int method of the object", Modifier.isPublic(modifiers)
+                        && method.getReturnType() == int.class && !Modifier.isStatic(modifiers));
+                got.add(signature(method));
+                names.add(method.getName());
             }
         }
-        Checks.isTrue("the methods are those of the document: " + found, found.equals(words(METHODS)));
+        Checks.isTrue("the methods are " + want + ", not " + got, got.equals(want));
+        noNameTwice(names);
     }
 
-    private static void constants() throws IllegalAccessException {
-        Set<String> found = new TreeSet<>();
-        for (Field field : WordEquations.class.getDeclaredFields()) {
-            int modifiers = field.getModifiers();
-            if (Modifier.isPublic(modifiers)) {
-                Checks.isTrue(field + " is a constant",
-                        Modifier.isStatic(modifiers) && Modifier.isFinal(modifiers) && field.getType() == int.class);
-                found.add(field.getName() + "=" + field.getInt(null));
-            } else {
-                Checks.isTrue(field + " is private", Modifier.isPrivate(modifiers));
+    /** "No private method bears the name of a public one", nor does a method of a class inside. */
+    private static void noNameTwice(Set<String> names) {
+        for (Method method : WordEquations.class.getDeclaredMethods()) {
+            Checks.isTrue(method + " has a name of its own",
+                    Modifier.isPublic(method.getModifiers()) || !names.contains(method.getName()));
+        }
+        for (Class<?> inside : WordEquations.class.getDeclaredClasses()) {
+            for (Method method : inside.getDeclaredMethods()) {
+                Checks.isTrue(method + " has a name of its own", !names.contains(method.getName()));
             }
         }
-        Checks.isTrue("the constants are those of the document: " + found, found.equals(words(CONSTANTS)));
+    }
+
+    private static void constants(Document document) throws IllegalAccessException {
+        Set<String> got = new TreeSet<>();
+        for (Field field : WordEquations.class.getDeclaredFields()) {
+            int modifiers = field.getModifiers();
+            if (!Modifier.isPrivate(modifiers)) {
+                Checks.isTrue(field + " is a public constant", Modifier.isPublic(modifiers)
+                        && Modifier.isStatic(modifiers) && Modifier.isFinal(modifiers) && field.getType() == int.class);
+                got.add(field.getName() + "=" + field.getInt(null));
+            }
+        }
+        Set<String> want = new TreeSet<>(document.constants());
+        Checks.isTrue("the constants are " + want + ", not " + got, got.equals(want));
+        Set<String> listed = new TreeSet<>(document.listedConstants());
+        Checks.isTrue("the list of the constants is " + listed + ", not " + got, got.equals(listed));
     }
 
     private static void constructors() {
@@ -83,38 +92,19 @@ public final class FaceTest {
     }
 
     private static void classesInside() {
-        Set<String> taken = new TreeSet<>();
-        for (String signature : METHODS.split(" ")) {
-            taken.add(signature.substring(0, signature.indexOf('(')));
-        }
-        Class<?>[] inside = WordEquations.class.getDeclaredClasses();
-        Checks.isTrue("at most twelve classes", inside.length + 1 <= 12);
-        for (Class<?> type : inside) {
+        for (Class<?> type : WordEquations.class.getDeclaredClasses()) {
             int modifiers = type.getModifiers();
-            Checks.isTrue(type + " is static and not public", Modifier.isStatic(modifiers)
+            Checks.isTrue(type + " is static and neither public nor protected", Modifier.isStatic(modifiers)
                     && !Modifier.isPublic(modifiers) && !Modifier.isProtected(modifiers));
-            for (Method method : type.getDeclaredMethods()) {
-                Checks.isTrue(method + " has a name of its own", !taken.contains(method.getName()));
-                Checks.isTrue(method + " has at most seven parameters", method.getParameterCount() <= 7);
-            }
-            for (Field field : type.getDeclaredFields()) {
-                Checks.isTrue(field + " is final if it is static",
-                        !Modifier.isStatic(field.getModifiers()) || Modifier.isFinal(field.getModifiers()));
-            }
         }
     }
 
-    private static void source() throws IOException {
-        String text = Files.readString(SOURCE);
-        String code = text.replaceAll("(?s)/\\*.*?\\*/", " ").replaceAll("//[^\n]*", " ")
-                .replaceAll("'(\\\\.|[^'])'", "0").replaceAll("\"[^\"]*\"", "0");
-        Matcher forbidden = Pattern.compile("\\b(throw|throws|try|catch|finally|synchronized|assert|import|package"
-                + "|equals|hashCode|toString|\\w*Exact|Object)\\b|->|::").matcher(code);
-        while (forbidden.find()) {
-            Checks.isTrue("the source is free of " + forbidden.group(), false);
-        }
-        for (char c : text.toCharArray()) {
-            Checks.isTrue("the source has no character " + (int) c, c == '\n' || c >= 32 && c < 127);
-        }
+    /** Each promise is the constructor or a method of the face, and each of these has its promise. */
+    private static void promises(Document document) {
+        List<String> promises = document.promises();
+        Checks.due("promises", promises.size(), PROMISES);
+        Checks.isTrue("promise 1 is the constructor", promises.get(0).equals("WordEquations()"));
+        Checks.isTrue("the other promises are the methods of the face",
+                promises.subList(1, promises.size()).equals(document.methods()));
     }
 }
