@@ -95,20 +95,30 @@ public final class ReadmeTest {
                 answers = (List<?>) collected.invoke(null);
             }
         }
-        for (File file : folder.toFile().listFiles()) {
-            file.delete();
-        }
-        Files.delete(folder);
+        remove(folder.toFile());
         return answers;
+    }
+
+    private static void remove(File file) {
+        File[] inside = file.listFiles();
+        for (int i = 0; inside != null && i < inside.length; i++) {
+            remove(inside[i]);
+        }
+        file.delete();
     }
 
     // ---- the commands
 
     private static void commands(String block) throws IOException, InterruptedException {
-        Process shell = new ProcessBuilder("sh", "-e", "-c", block).redirectErrorStream(true).start();
+        Path folder = Files.createTempDirectory("readme");
+        ProcessBuilder builder = new ProcessBuilder("sh", "-e", "-c", block).redirectErrorStream(true);
+        // What the commands make for a while is made where it can be taken away again.
+        builder.environment().put("TMPDIR", folder.toString());
+        Process shell = builder.start();
         String said = new String(shell.getInputStream().readAllBytes());
         Checks.due("the commands, which said: " + said, shell.waitFor(), 0);
         Checks.isTrue("they end with a test's words: " + said, said.contains("all answers are as due"));
+        remove(folder.toFile());
         Checks.isTrue(".ci/run can be called", Files.isExecutable(Path.of(".ci/run")));
     }
 
@@ -120,8 +130,9 @@ public final class ReadmeTest {
         for (String line : page.split("\n")) {
             Matcher matcher = PROMISE_ROW.matcher(line);
             if (matcher.matches() && row < promises.size()) {
-                Checks.due("the number of " + matcher.group(2), Integer.parseInt(matcher.group(1)), row + 1);
-                Checks.isTrue(matcher.group(2) + " is promise " + (row + 1), matcher.group(2).equals(promises.get(row)));
+                String call = matcher.group(2);
+                Checks.due("the number of " + call, Integer.parseInt(matcher.group(1)), row + 1);
+                Checks.isTrue(call + " is promise " + (row + 1), call.equals(promises.get(row)));
                 row++;
             }
         }
